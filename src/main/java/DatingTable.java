@@ -276,7 +276,8 @@ public final class DatingTable {
         if (!isFind(i) || !isYear(year)) {
             return BAD;
         }
-        return shareWithin(i, year, year);
+        long whole = weighForShare();
+        return whole < 0 ? whole : shareWithin(i, year, year, whole);
     }
 
     public long below() {
@@ -287,7 +288,8 @@ public final class DatingTable {
         if (!isFind(i) || !isYear(year)) {
             return BAD;
         }
-        return shareWithin(i, 0, year);
+        long whole = weighForShare();
+        return whole < 0 ? whole : shareWithin(i, 0, year, whole);
     }
 
     public long order(int i, int k) {
@@ -551,11 +553,7 @@ public final class DatingTable {
         return whole == 0 ? NONE : whole;
     }
 
-    private long shareWithin(int i, int from, int to) {
-        long whole = weighForShare();
-        if (whole < 0) {
-            return whole;
-        }
+    private long shareWithin(int i, int from, int to, long whole) {
         weighing.limit(i, from, to);
         return fraction(counter.countAll(), whole);
     }
@@ -786,18 +784,18 @@ public final class DatingTable {
 
         private int plainOfAges(Find f, int year) {
             int product = 1;
-            for (int a = 0; a < f.ageCount && product != 0; a++) {
-                product *= missAt(f.age[a], year + f.gap[a]);
+            for (int a = 0; a < f.ageCount; a++) {
+                int there = year + f.gap[a];
+                if (there < 0 || there >= yearCount) {
+                    return 0;
+                }
+                int difference = Math.abs(f.age[a] - ageOfYear[there]);
+                if (difference > MOST_DIFFERENCE) {
+                    return 0;
+                }
+                product *= misses[difference];
             }
             return product;
-        }
-
-        private int missAt(int age, int year) {
-            if (year < 0 || year >= yearCount) {
-                return 0;
-            }
-            int difference = Math.abs(age - ageOfYear[year]);
-            return difference > MOST_DIFFERENCE ? 0 : misses[difference];
         }
 
         int meanPlain(Find f) {
@@ -1155,17 +1153,14 @@ public final class DatingTable {
             }
         }
 
-        private int setBefore(int i, int year) {
+        /** Those that must be in the set already when a year places a find. */
+        private int leastBefore(int i, int year) {
             return ended[year] | weighing.pairs.ahead[i];
         }
 
-        private int mayBeBefore(int i, int year) {
-            return begun[year] & ~setBefore(i, year) & ~(1 << i);
-        }
-
         private void place(int i, int year) {
-            int least = setBefore(i, year);
-            int others = mayBeBefore(i, year);
+            int least = leastBefore(i, year);
+            int others = begun[year] & ~least & ~(1 << i);
             long w = weighing.weightAt(i, year);
             int more = 0;
             for (int turn = 0; turn < SETS_OF_FINDS; turn++) {
@@ -1179,8 +1174,8 @@ public final class DatingTable {
         }
 
         private void takeUp(int i, int year) {
-            int least = setBefore(i, year);
-            int others = mayBeBefore(i, year);
+            int least = leastBefore(i, year);
+            int others = begun[year] & ~least & ~(1 << i);
             long w = weighing.weightAt(i, year);
             int more = 0;
             for (int turn = 0; turn < SETS_OF_FINDS; turn++) {
@@ -1194,8 +1189,8 @@ public final class DatingTable {
         }
 
         private long meet(int i, int year) {
-            int least = setBefore(i, year);
-            int others = mayBeBefore(i, year);
+            int least = leastBefore(i, year);
+            int others = begun[year] & ~least & ~(1 << i);
             long w = weighing.weightAt(i, year);
             long sum = 0;
             int more = 0;

@@ -417,6 +417,16 @@ public final class PromiseTests {
         x.odd(0, 1);
         due.is("13: of(0, 5) of an odd one", x.of(0, 5), 11);
         due.is("13: of(0, 4), odd or not", x.of(0, 4), 1);
+        x.years(17);
+        due.is("13: of(0, 4), 17 by 17", x.of(0, 4), 1);
+        x.years(18);
+        due.is("13: of(0, 4), 17 by 18", x.of(0, 4), 0);
+        x.drop();
+        x.find(3, 1);
+        x.years(1);
+        due.is("13: of(4, 4), a year that is not there", x.of(4, 4), 0);
+        x.years(2);
+        due.is("13: of(4, 4), 1 by 2", x.of(4, 4), 0);
     }
 
     private static void weight() {
@@ -974,12 +984,16 @@ public final class PromiseTests {
         x.years(9);
         x.curve(1, 3);
         x.miss(2, 2);
+        x.miss(20, 2);
+        x.curve(39, 3);
         x.pair(0, 1, 2);
         x.odd(1, 0);
         due.is("33: back()", x.back(), 3);
         due.is("33: the years", x.count(1), 6);
         due.is("33: the curve", x.curve(1, 495), 495);
         due.is("33: the misses", x.miss(2, 7), 7);
+        due.is("33: the last one of them", x.miss(20, 3), 0);
+        due.is("33: the curve of the last year", x.curve(39, 7), 305);
         due.is("33: the pair", x.pair(0, 1, 1), 1);
         due.is("33: by what it is ODD", x.of(1, 2), 3);
         due.is("33: the KIND", x.of(2, 0), 1);
