@@ -1,19 +1,5 @@
-import java.nio.charset.StandardCharsets;
-
 /** For each promise of the document: ordinary inputs, the edges that it names, and wrong inputs. */
-public final class PromiseTests {
-    private static final int BAD = -2;
-    private static final int NONE = -4;
-    private static final int BIG = -5;
-    private static final int NOTHING = -10;
-    private static final int PLACE = -11;
-    private static final int SORT = -12;
-    private static final int SIZE = -13;
-    private static final int LEAST = Integer.MIN_VALUE;
-    private static final int MOST = Integer.MAX_VALUE;
-
-    private static final Due due = new Due();
-
+public final class PromiseTests extends Tables {
     public static void main(String[] args) {
         newObject();
         years();
@@ -53,48 +39,6 @@ public final class PromiseTests {
         bears();
         count();
         due.end();
-    }
-
-    /** Feeds a text, eight bytes at a time, and reads it. */
-    private static int read(DatingTable x, String text) {
-        byte[] bytes = text.getBytes(StandardCharsets.ISO_8859_1);
-        for (int at = 0; at < bytes.length; at += 8) {
-            long w = 0;
-            int n = Math.min(8, bytes.length - at);
-            for (int step = 0; step < n; step++) {
-                w |= (bytes[at + step] & 255L) << (8 * step);
-            }
-            x.feed(w, n);
-        }
-        return x.text();
-    }
-
-    private static DatingTable withBorders(int finds, int years) {
-        DatingTable x = new DatingTable();
-        x.years(years);
-        for (int i = 0; i < finds; i++) {
-            x.find(2, 0);
-        }
-        return x;
-    }
-
-    /** Seven RINGS of two ages each, too many for a TOTAL. */
-    private static DatingTable tooBig() {
-        DatingTable x = new DatingTable();
-        for (int i = 0; i < 7; i++) {
-            x.find(1, 450);
-            x.ring(i, 445, 1);
-            x.odd(i, 9);
-        }
-        return x;
-    }
-
-    /** Two finds that each must come ahead of the other one. */
-    private static DatingTable impossible() {
-        DatingTable x = withBorders(2, 5);
-        x.pair(0, 1, 1);
-        x.pair(1, 0, 1);
-        return x;
     }
 
     private static void newObject() {
@@ -935,13 +879,6 @@ public final class PromiseTests {
         due.is("31: number() of 20", x.number(), BAD);
         due.is("31: count(3), none wait", x.count(3), 0);
         due.is("31: tell(0)", x.tell(0), 1);
-    }
-
-    private static long numberOf(DatingTable x, int... years) {
-        for (int year : years) {
-            x.tell(year);
-        }
-        return x.number();
     }
 
     private static void number() {
