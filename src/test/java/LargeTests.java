@@ -1,9 +1,11 @@
 import java.math.BigInteger;
+import java.util.Arrays;
 import java.util.Random;
 
 /**
  * Tables with up to 7 finds in 40 years, too large to go through every giving: THE TOTAL is held
- * against another way of counting, and the other answers against one another.
+ * against another way of counting, and the other answers against one another. Each sort of question
+ * is asked of an object of its own, made by the same calls, so that none is asked more than 512.
  */
 public final class LargeTests {
     private static final int TABLES = 150;
@@ -13,6 +15,8 @@ public final class LargeTests {
     private int finds;
     private int years;
     private final int[][] how = new int[7][7];
+    private final long[][] weights = new long[7][40];
+    private long total;
 
     public static void main(String[] args) {
         LargeTests tests = new LargeTests();
@@ -20,9 +24,14 @@ public final class LargeTests {
         for (int seed = 0; counted < TABLES && seed < 100 * TABLES; seed++) {
             tests.make(seed);
             tests.totalIsAsCountedElsewhere("table " + seed);
-            if (tests.x.total() > 0) {
+            if (tests.total > 0) {
                 counted++;
-                tests.answersAgree("table " + seed);
+                tests.make(seed);
+                tests.sharesAgree("table " + seed);
+                tests.make(seed);
+                tests.apartAgrees("table " + seed);
+                tests.make(seed);
+                tests.drawAgrees("table " + seed);
             }
         }
         tests.due.is("how many tables were looked at", counted, TABLES);
@@ -51,7 +60,7 @@ public final class LargeTests {
             x.odd(i, random.nextInt(3) == 0 ? random.nextInt(3) : 0);
         }
         for (int i = 0; i < 7; i++) {
-            java.util.Arrays.fill(how[i], 0);
+            Arrays.fill(how[i], 0);
         }
         int pairs = random.nextInt(2 * finds);
         for (int p = 0; p < pairs; p++) {
@@ -71,22 +80,24 @@ public final class LargeTests {
         for (int i = 0; i < finds; i++) {
             long sum = 0;
             for (int year = 0; year < years; year++) {
-                sum += x.weight(i, year);
+                weights[i][year] = x.weight(i, year);
+                sum += weights[i][year];
             }
             product = product.multiply(BigInteger.valueOf(sum));
         }
         boolean isBig = product.compareTo(BigInteger.valueOf(4000000000000000L)) > 0;
-        due.is(at + ": total()", x.total(), isBig ? -5 : countElsewhere().longValueExact());
+        total = x.total();
+        due.is(at + ": total()", total, isBig ? -5 : countElsewhere().longValueExact());
     }
 
     private BigInteger countElsewhere() {
         int sets = 1 << finds;
         BigInteger[] placed = new BigInteger[sets];
-        java.util.Arrays.fill(placed, BigInteger.ZERO);
+        Arrays.fill(placed, BigInteger.ZERO);
         placed[0] = BigInteger.ONE;
         for (int year = 0; year < years; year++) {
             BigInteger[] next = new BigInteger[sets];
-            java.util.Arrays.fill(next, BigInteger.ZERO);
+            Arrays.fill(next, BigInteger.ZERO);
             BigInteger[] products = productsAt(year);
             for (int before = 0; before < sets; before++) {
                 int left = sets - 1 & ~before;
@@ -110,7 +121,7 @@ public final class LargeTests {
             products[set] = BigInteger.ONE;
             for (int i = 0; i < finds; i++) {
                 if ((set >> i & 1) != 0) {
-                    products[set] = products[set].multiply(BigInteger.valueOf(x.weight(i, year)));
+                    products[set] = products[set].multiply(BigInteger.valueOf(weights[i][year]));
                 }
             }
         }
@@ -130,8 +141,6 @@ public final class LargeTests {
         return true;
     }
 
-    private long total;
-
     /** A fraction that was answered, as its part of THE TOTAL. */
     private long part(String call, long above) {
         long under = x.below();
@@ -140,10 +149,8 @@ public final class LargeTests {
         return above * (total / under);
     }
 
-    private void answersAgree(String at) {
-        total = x.total();
+    private void sharesAgree(String at) {
         int i = random.nextInt(finds);
-        int k = random.nextInt(finds);
         long[] shares = new long[years];
         long sum = 0;
         BigInteger weighed = BigInteger.ZERO;
@@ -161,8 +168,6 @@ public final class LargeTests {
         BigInteger left = BigInteger.valueOf(above).multiply(BigInteger.valueOf(total));
         due.holds(at + ": mean", left.equals(weighed.multiply(BigInteger.valueOf(x.below()))));
         spanAgrees(at, i, shares);
-        apartAgrees(at, i, k);
-        drawAgrees(at);
     }
 
     private void spanAgrees(String at, int i, long[] shares) {
@@ -187,7 +192,9 @@ public final class LargeTests {
         return sum.multiply(BigInteger.valueOf(1000)).compareTo(BigInteger.valueOf(total).multiply(BigInteger.valueOf(p))) >= 0;
     }
 
-    private void apartAgrees(String at, int i, int k) {
+    private void apartAgrees(String at) {
+        int i = random.nextInt(finds);
+        int k = random.nextInt(finds);
         long ahead = 0;
         long same = 0;
         long behind = 0;
@@ -208,8 +215,9 @@ public final class LargeTests {
             long counts = x.draw(number);
             BigInteger product = BigInteger.ONE;
             for (int i = 0; i < finds; i++) {
-                product = product.multiply(BigInteger.valueOf(x.weight(i, x.drawn(i))));
-                x.tell(x.drawn(i));
+                int year = x.drawn(i);
+                product = product.multiply(BigInteger.valueOf(weights[i][year]));
+                x.tell(year);
             }
             long first = x.number();
             due.is(at + ": what the drawn one counts", counts, product.longValueExact());
