@@ -8,6 +8,7 @@ public final class KeepEdgeTests extends Tables {
         backTwice();
         whatIsKept();
         whatIsKeptStays();
+        allAgesAreKept();
         fewerFindsComeBack();
         moreFindsComeBack();
         whatIsNotKept();
@@ -187,6 +188,36 @@ public final class KeepEdgeTests extends Tables {
         changeAll(x);
         x.back();
         isOfAllKinds("34: still kept, ", x);
+    }
+
+    /** RINGS of 5 AGES in 5 years: none of them and of their GAPS can be another one. */
+    private static void allAgesAreKept() {
+        DatingTable x = new DatingTable();
+        int[] ages = {100, 300, 500, 700, 900};
+        for (int i = 0; i < 7; i++) {
+            x.find(1, 100);
+            for (int a = 1; a < 5; a++) {
+                x.ring(i, ages[a] - a, 2 * a);
+            }
+        }
+        for (int a = 0; a < 5; a++) {
+            x.curve(7 + 2 * a, ages[a]);
+        }
+        x.keep();
+        for (int i = 0; i < 7; i++) {
+            x.drop();
+        }
+        for (int i = 0; i < 7; i++) {
+            x.find(1, 1000);
+            for (int a = 1; a < 5; a++) {
+                x.ring(i, 1000, 39);
+            }
+        }
+        x.back();
+        for (int i = 0; i < 7; i++) {
+            due.is("33, 34: the 5 AGES and GAPS of find " + i, x.weight(i, 7), 9 * 8 * 7 * 6 * 5);
+            due.is("33, 34: in one year alone, find " + i, x.of(i, 5), 1);
+        }
     }
 
     private static void fewerFindsComeBack() {

@@ -62,11 +62,12 @@ public final class LargeTests {
         for (int i = 0; i < 7; i++) {
             Arrays.fill(how[i], 0);
         }
+        int[] rank = random.ints(0, finds).distinct().limit(finds).toArray();
         int pairs = random.nextInt(2 * finds);
         for (int p = 0; p < pairs; p++) {
             int i = random.nextInt(finds);
             int k = random.nextInt(finds);
-            boolean isBackward = i > k && random.nextInt(4) != 0;
+            boolean isBackward = rank[i] > rank[k] && random.nextInt(4) != 0;
             if (i != k && !isBackward) {
                 how[i][k] = 1 + random.nextInt(2);
                 x.pair(i, k, how[i][k]);

@@ -198,7 +198,8 @@ public final class ReferenceTests {
             case 11: {
                 int k = anyFind();
                 int how = any(0, 2);
-                if (i > k && random.nextInt(3) != 0) {
+                boolean isBackward = mostFinds % 2 == 0 ? i > k : i < k;
+                if (isBackward && random.nextInt(3) != 0) {
                     how = 0;
                 }
                 is(call, at + "pair " + i + " " + k + " " + how, x.pair(i, k, how), plain.pair(i, k, how));

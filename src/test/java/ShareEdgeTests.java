@@ -37,6 +37,9 @@ public final class ShareEdgeTests extends Tables {
         withoutTheOnlyOne();
         withoutIsBig();
         withoutIsNone();
+        eachOfSevenInForty();
+        eachTwoOfSevenInForty();
+        withoutEachOfSeven();
         due.end();
     }
 
@@ -546,5 +549,56 @@ public final class ShareEdgeTests extends Tables {
         due.fraction("28: its PAIRS go with it", x, x.without(2), 1, 1);
         due.fraction("28: those of others stay", x, x.without(1), 1, 1);
         due.fraction("28: both go", x, x.without(0), 2, 5);
+    }
+
+    private static void eachOfSevenInForty() {
+        for (int i = 0; i < 7; i++) {
+            DatingTable x = withBorders(7, 40);
+            String of = " of find " + i + " of 7 in 40 YEARS";
+            due.fraction("19: the last year" + of, x, x.share(i, 39), 1, 40);
+            due.fraction("21: the last year but one" + of, x, x.until(i, 38), 39, 40);
+            due.fraction("24: the mean year" + of, x, x.mean(i), 39, 2);
+            due.is("25: the best year" + of, x.best(i), 0);
+            due.is("26: 975 thousandths" + of, x.span(i, 975), 38);
+            due.is("26: 976 thousandths" + of, x.span(i, 976), 39);
+            x.odd(i, 4);
+            for (int k = 0; k < 7; k++) {
+                due.fraction("27: what comes of " + k + of, x, x.strange(k), k == i ? 2 : 0, k == i ? 5 : 1);
+            }
+            due.is("18: with one that is ODD" + of, x.total(), 1638400000000L);
+            due.fraction("28: without it" + of, x, x.without(i), 400, 1);
+        }
+    }
+
+    private static void eachTwoOfSevenInForty() {
+        for (int i = 0; i < 7; i++) {
+            DatingTable x = withBorders(7, 40);
+            for (int k = 0; k < 7; k++) {
+                String of = " of finds " + i + " and " + k + " of 7 in 40 YEARS";
+                boolean isSame = i == k;
+                due.fraction("22: the order" + of, x, x.order(i, k), isSame ? 0 : 39, isSame ? 1 : 80);
+                due.fraction("23: 39 years" + of, x, x.apart(i, k, 39), isSame ? 0 : 1, isSame ? 1 : 1600);
+                due.fraction("23: -39 years" + of, x, x.apart(i, k, -39), isSame ? 0 : 1, isSame ? 1 : 1600);
+                due.fraction("23: the same year" + of, x, x.apart(i, k, 0), 1, isSame ? 1 : 40);
+            }
+        }
+    }
+
+    /** One is AHEAD of all others, or all others are AHEAD of it: without it, they are free. */
+    private static void withoutEachOfSeven() {
+        for (int i = 0; i < 7; i++) {
+            DatingTable x = withBorders(7, 3);
+            DatingTable y = withBorders(7, 3);
+            for (int k = 0; k < 7; k++) {
+                x.pair(i, k, 1);
+                y.pair(k, i, 2);
+            }
+            // In 3 YEARS: 2 to the sixth and 1, by 3 to the sixth.
+            due.fraction("28: without find " + i + ", AHEAD of all", x, x.without(i), 65, 729);
+            due.fraction("28: without find " + i + ", none is LATER", y, y.without(i), 794, 729);
+            int other = (i + 3) % 7;
+            // 2 to the fifth and 1 are left.
+            due.fraction("28: without another one than " + i, x, x.without(other), 65, 33);
+        }
     }
 }

@@ -48,6 +48,9 @@ public final class SheetEdgeTests extends Tables {
             due.is("8: none of a row of 0", x.lay(2, sort, 0, 0, 0), 0);
             due.is("8: one of a row of 0", x.lay(2, sort, 0, 0, 1), PLACE);
             due.is("7: a row of 0 is there", x.lose(2), 1);
+            due.is("7: a row of 0 that was lost", x.lose(2), 0);
+            due.is("6: a row of 0 that was lost", x.write(2, 0, 1), NOTHING);
+            due.is("8: a row of 0 that was lost", x.lay(2, sort, 0, 0, 0), NOTHING);
         }
     }
 
